@@ -1,4 +1,5 @@
 import java.util.ArrayList;
+import java.util.Arrays;
 import java.util.List;
 
 /**
@@ -54,7 +55,7 @@ public final class ModelTest {
         this.lines = new Tree[rows + columns];
         this.pins = new int[rows][columns];
         for (int[] row : pins) {
-            java.util.Arrays.fill(row, 2);
+            Arrays.fill(row, 2);
         }
         this.seed = run;
     }
@@ -121,12 +122,9 @@ public final class ModelTest {
             checks.due(at + sign, sign == '.' ? x.cat() : x.alt(), size >= 2 ? size - 1 : -3);
         } else {
             char sign = kind < 15 ? '*' : '~';
-            // Stars on stars without end would make the trees slow to search.
-            if (size >= 1 && pick(4) > 0) {
+            if (size >= 1) {
                 Tree top = stack.remove(size - 1);
                 stack.add(new Tree(sign, top, null, top.letters));
-            } else if (size >= 1) {
-                return;
             }
             checks.due(at + sign, sign == '*' ? x.star() : x.reverse(), size >= 1 ? size : -3);
         }
