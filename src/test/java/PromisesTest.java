@@ -1,3 +1,5 @@
+import java.util.List;
+
 /** Each promise by hand: ordinary inputs, the edges that the document names, wrong inputs. */
 public final class PromisesTest {
     private static final int BAD_ARG = -1;
@@ -8,6 +10,7 @@ public final class PromisesTest {
     private static final int LEAST = Integer.MIN_VALUE;
     private static final int MOST = Integer.MAX_VALUE;
     private static final Checks checks = new Checks();
+    private static final Expressions expressions = new Expressions(checks);
 
     public static void main(String[] args) {
         newObject();
@@ -35,46 +38,16 @@ public final class PromisesTest {
         checks.due(call, got, want);
     }
 
-    /**
-     * Pushes in postfix order: 0, 1 and 2 the letters, e the unit, . cat, | alt, * star, ~ reverse.
-     */
     private static void push(ExprCrossword x, String postfix) {
-        for (char sign : postfix.toCharArray()) {
-            int answer = switch (sign) {
-                case 'e' -> x.unit();
-                case '.' -> x.cat();
-                case '|' -> x.alt();
-                case '*' -> x.star();
-                case '~' -> x.reverse();
-                default -> x.letter(sign - '0');
-            };
-            due("after '" + sign + "' of " + postfix, answer, x.depth());
-        }
+        expressions.push(x, postfix);
     }
 
-    /** Asks of a language, by grids of one row, which of the words of 1 to 4 letters are in it. */
     private static void language(String postfix, String... words) {
-        for (int columns = 1; columns <= 4; columns++) {
-            ExprCrossword x = new ExprCrossword(1, columns);
-            push(x, postfix);
-            due("setLine of " + postfix, x.setLine(0), 0);
-            int k = 0;
-            for (String word : words) {
-                if (word.length() == columns) {
-                    due(postfix + " filling(" + k + ")", x.filling(k), Integer.parseInt(word, 2));
-                    k++;
-                }
-            }
-            due(postfix + " fillings() of length " + columns, x.fillings(), k);
-        }
+        expressions.language(postfix, List.of(words));
     }
 
-    /** The empty word can't be asked for directly: X and the letter 1 joined have the word 1. */
     private static void emptyWord(String postfix, boolean in) {
-        ExprCrossword x = new ExprCrossword(1, 1);
-        push(x, postfix + "1.");
-        x.setLine(0);
-        due(postfix + " with the empty word", x.filling(0), in ? 1 : NONE);
+        expressions.emptyWord(postfix, in);
     }
 
     private static void newObject() {
