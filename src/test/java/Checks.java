@@ -1,7 +1,7 @@
 /** Counts and prints the answers that are not as due. */
 final class Checks {
     /** Far above what any test needs: a test that runs longer holds a call that doesn't end. */
-    private static final long LIMIT_MILLIS = 300_000;
+    private static final long LIMIT_MILLIS = 120_000;
 
     private int wrong = 0;
 

@@ -205,8 +205,25 @@ public final class StackBoundariesTest {
         });
     }
 
+    /** The expressions that are left on the stack, the top first, each known by its one word. */
+    private static void leaves(ExprCrossword x, String... words) {
+        for (int n = 0; n < words.length; n++) {
+            due("setLine(0)", x.setLine(0), words.length - 1 - n);
+            due("fillings() of " + words[n], x.fillings(), 1);
+            due("filling(0) of " + words[n], x.filling(0), Integer.parseInt(words[n], 2));
+        }
+    }
+
     private static void cat() {
         takesTwo("4", '.');
+        checks.sentence("4: takes the top Y and the one below it X off, and no other", () -> {
+            ExprCrossword x = new ExprCrossword(1, 2);
+            expressions.push(x, "00.01.10.10.e.");
+            leaves(x, "10", "10", "01", "00");
+            ExprCrossword y = new ExprCrossword(1, 2);
+            expressions.push(y, "11.01.10.e10..");
+            leaves(y, "10", "10", "01", "11");
+        });
         checks.sentence("4: a word of X followed by a word of Y, empty or as long as can be", () -> {
             for (String first : Expressions.WORDS) {
                 for (String second : Expressions.WORDS) {
@@ -227,6 +244,14 @@ public final class StackBoundariesTest {
 
     private static void alt() {
         takesTwo("5", '|');
+        checks.sentence("5: takes the two topmost off, and no other", () -> {
+            ExprCrossword x = new ExprCrossword(1, 2);
+            expressions.push(x, "00.01.11.e10.|");
+            leaves(x, "10", "11", "01", "00");
+            ExprCrossword y = new ExprCrossword(1, 2);
+            expressions.push(y, "00.01.11.10.e|");
+            leaves(y, "10", "11", "01", "00");
+        });
         checks.sentence("5: the union, of empty, equal and long words, too", () -> {
             for (String first : Expressions.WORDS) {
                 for (String second : Expressions.WORDS) {
@@ -369,6 +394,15 @@ public final class StackBoundariesTest {
                     due(size + " fillings()", x.fillings(), size.numbers() / size.words(line));
                 }
             }
+        });
+        checks.sentence("8: takes the top off, which becomes the line's language in place of the one before", () -> {
+            ExprCrossword x = new ExprCrossword(1, 2);
+            expressions.push(x, "00.01.10.11.ee");
+            due("setLine(0) on six", x.setLine(0), 5);
+            due("fillings() of a unit", x.fillings(), 0);
+            due("setLine(0) on five", x.setLine(0), 4);
+            due("fillings() of a unit", x.fillings(), 0);
+            leaves(x, "11", "10", "01", "00");
         });
         checks.sentence("8: otherwise answers the number afterwards, from a full stack to an empty one", () -> {
             for (String stack : SIX) {
