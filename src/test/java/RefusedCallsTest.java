@@ -140,16 +140,17 @@ public final class RefusedCallsTest {
     }
 
     private static void unchanged(State state, Call call, int want) {
-        for (int ending = 0; ending < ENDINGS; ending++) {
+        for (int n = 0; n < ENDINGS; n++) {
+            int ending = n;
             ExprCrossword asked = state.make();
             checks.due(state + call.name(), call.of().applyAsInt(asked), want);
-            same(state, call, asked, ending);
+            List<Integer> due = UNASKED.computeIfAbsent(state + " " + ending,
+                key -> all(state, state.make(), ending));
+            same(state, call, all(state, asked, ending), due);
         }
     }
 
-    private static void same(State state, Call call, ExprCrossword asked, int ending) {
-        List<Integer> due = UNASKED.computeIfAbsent(state + " " + ending, key -> all(state, state.make(), ending));
-        List<Integer> got = all(state, asked, ending);
+    private static void same(State state, Call call, List<Integer> got, List<Integer> due) {
         for (int n = 0; n < due.size(); n++) {
             checks.due(state + "after " + call.name() + " answer " + n, got.get(n), due.get(n));
         }
@@ -270,19 +271,67 @@ public final class RefusedCallsTest {
     }
 
     private static void asking(State state) {
-        for (int ending = 0; ending < ENDINGS; ending++) {
-            ExprCrossword x = state.make();
-            x.depth();
-            x.letters();
-            x.pinned(0, 0);
-            x.fillings();
-            x.filling(0);
-            x.below(0);
-            x.below(-1);
-            x.below(Integer.MAX_VALUE);
-            x.forced(0, 0);
-            x.lineWords(0);
-            same(state, new Call("questions", ExprCrossword::depth), x, ending);
+        int r = state.size().rows() - 1;
+        int c = state.size().columns() - 1;
+        Call[] questions = {
+            new Call("depth()", ExprCrossword::depth),
+            new Call("letters()", ExprCrossword::letters),
+            new Call("pinned(0, 0)", x -> x.pinned(0, 0)),
+            new Call("pinned of the last cell", x -> x.pinned(r, c)),
+            new Call("fillings()", ExprCrossword::fillings),
+            new Call("filling(0)", x -> x.filling(0)),
+            new Call("filling(1)", x -> x.filling(1)),
+            new Call("below(0)", x -> x.below(0)),
+            new Call("below(2)", x -> x.below(2)),
+            new Call("below of all", x -> x.below(Integer.MAX_VALUE)),
+            new Call("forced(0, 0)", x -> x.forced(0, 0)),
+            new Call("forced of the last cell", x -> x.forced(r, c)),
+            new Call("lineWords(0)", x -> x.lineWords(0)),
+            new Call("lineWords of the last line", x -> x.lineWords(r + c + 1)),
+        };
+        for (Call question : questions) {
+            for (boolean byLineWords : new boolean[] {false, true}) {
+                ExprCrossword asked = state.make();
+                int answer = question.of().applyAsInt(asked);
+                checks.due(state + question.name() + " again", question.of().applyAsInt(asked), answer);
+                List<Integer> due = byOne(state, state.make(), byLineWords);
+                same(state, question, byOne(state, asked, byLineWords), due);
+            }
+        }
+    }
+
+    /**
+     * Asks by one kind of question alone: an object that is asked more would hide what the
+     * other kinds of question change.
+     */
+    private static List<Integer> byOne(State state, ExprCrossword x, boolean byLineWords) {
+        List<Integer> answers = new ArrayList<>();
+        Sizes size = state.size();
+        ask(state, x, byLineWords, answers);
+        for (int r : size.rowNumbers()) {
+            for (int c : size.columnNumbers()) {
+                answers.add(x.pin(r, c, OPEN));
+            }
+        }
+        for (int line : size.lineNumbers()) {
+            answers.add(x.freeLine(line));
+        }
+        for (int n = 0; n < 6; n++) {
+            answers.add(x.setLine(0));
+            ask(state, x, byLineWords, answers);
+        }
+        return answers;
+    }
+
+    private static void ask(State state, ExprCrossword x, boolean byLineWords, List<Integer> answers) {
+        if (byLineWords) {
+            for (int line : state.size().lineNumbers()) {
+                answers.add(x.lineWords(line));
+            }
+        } else {
+            for (int k = 0; k < 8; k++) {
+                answers.add(x.filling(k));
+            }
         }
     }
 
